@@ -179,6 +179,10 @@ public final class ActsTest {
         Check.due("none more, as told", y.cloth(4), 0);
         Check.act(y, 1, 0);
         Check.due("fewer", y.cloth(4), 1);
+        Check.read(y, "l12,40,9,0,1,1;c0;");
+        Check.due("a new loom", y.cloth(4), 0);
+        Check.act(y, 1);
+        Check.due("its first feast", y.cloth(4), 0);
         NightLoom none = Check.loomOf("l12,40,9,0,0,9;c0;");
         Check.act(none, 0, 0, 0);
         Check.due("no feasts", none.cloth(4), 0);

@@ -140,6 +140,8 @@ public final class ForetoldTest {
         dueSoonest(x, 4, 2, 2, 1, 1);
         dueSoonest(x, 4, 2, 1, NightLoom.NONE, NightLoom.NONE);
         Check.due("nothing changes", x.suitor(1, 0), 9);
+        // He would know on day 34 by 2, on day 28 by 7.
+        dueSoonest(Check.loomOf("l24,99,9,2,0,0;c1,2,2,2,1,3,3,0;p1,2;"), 0, 4, 7, 9, 27);
         NightLoom late = Check.loomOf("l24,99,9,0,0,0;c0;n9,1;");
         Check.act(late, 1, 0);
         // On day 2 an every of 1 or 2 looks: the least.
