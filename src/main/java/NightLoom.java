@@ -504,14 +504,6 @@ public final class NightLoom {
             return divides(moon, day) ? 0 : Math.min(tired, hang);
         }
 
-        boolean isFeast(int day) {
-            return divides(feast, day);
-        }
-
-        boolean looksOn(int suitor, int day) {
-            return divides(every[suitor], day);
-        }
-
         /** Whether the last n threads look the same at two lengths, neither of them below n. */
         boolean lookTheSame(int length, int other, int n) {
             for (int i = 1; i <= n; i++) {
@@ -532,7 +524,7 @@ public final class NightLoom {
             return lengths;
         }
 
-        private static boolean divides(int divisor, int day) {
+        static boolean divides(int divisor, int day) {
             return divisor != 0 && day % divisor == 0;
         }
     }
@@ -580,27 +572,27 @@ public final class NightLoom {
 
         /** Threads beyond HIGH take one each; the others one for each fourth that WEAR reaches. */
         int yarnFor(int n) {
-            int worn = wornBy(n);
+            int worn = Math.min(n, high - hang);
             return n - worn + (wear + worn) / 4 - wear / 4;
         }
 
         void hangMore(int n) {
             yarn -= yarnFor(n);
-            wear += wornBy(n);
+            wear += Math.min(n, high - hang);
             hang += n;
             high = Math.max(high, hang);
         }
 
         void passEvening(Law law) {
             for (int i = 0; i < law.suitors; i++) {
-                if (law.kinds[i] < CANDLE && law.looksOn(i, day)) {
+                if (law.kinds[i] < CANDLE && Law.divides(law.every[i], day)) {
                     if (looked[i] != NEVER && isDoubtful(law, law.kinds[i], looked[i])) {
                         doubts[i]++;
                     }
                     looked[i] = hang;
                 }
             }
-            if (law.isFeast(day)) {
+            if (Law.divides(law.feast, day)) {
                 if (hang - feastHang < law.grows) {
                     blamed++;
                 }
@@ -612,7 +604,7 @@ public final class NightLoom {
         void passNight(Law law, int n) {
             hang -= n;
             for (int i = 0; i < law.suitors; i++) {
-                if (n >= fewestNoticed(law.kinds[i]) && law.looksOn(i, day)) {
+                if (n >= fewestNoticed(law.kinds[i]) && Law.divides(law.every[i], day)) {
                     doubts[i]++;
                 }
             }
@@ -641,10 +633,6 @@ public final class NightLoom {
                 }
             }
             return NONE;
-        }
-
-        private int wornBy(int n) {
-            return Math.min(n, high - hang);
         }
 
         private boolean isDoubtful(Law law, int kind, int then) {
@@ -792,20 +780,20 @@ public final class NightLoom {
             if (token != LETTER || value != letter) {
                 blame(1);
             }
-            stepUnlessFaulty();
+            step();
         }
 
         private void takeSign(int sign) {
             if (token != sign) {
                 blame(1);
             }
-            stepUnlessFaulty();
+            step();
         }
 
         private int takeNumber(int least, int most) {
             checkNumber(least, most);
             int number = value;
-            stepUnlessFaulty();
+            step();
             return number;
         }
 
@@ -817,13 +805,11 @@ public final class NightLoom {
             }
         }
 
-        private void stepUnlessFaulty() {
-            if (faultNumber == 0) {
-                step();
-            }
-        }
-
+        /** To the TOKEN behind, but not past one that has a FAULT. */
         private void step() {
+            if (faultNumber != 0) {
+                return;
+            }
             place = next;
             if (place >= length) {
                 token = END;
