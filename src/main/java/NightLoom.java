@@ -687,6 +687,7 @@ public final class NightLoom {
     private static final class Reader {
         private static final String SORTS = "kpwnm";
         private static final int END = 0, LETTER = 1, NUMBER = 2, COMMA = 3, SEMICOLON = 4, OTHER = 5;
+        private static final int FIGURES = 2;
 
         private final int[] tape = new int[TAPE];
         private int length;
@@ -829,14 +830,13 @@ public final class NightLoom {
             }
         }
 
-        /** A NUMBER takes two figures at most: a third one begins a TOKEN of its own. */
+        /** Figures that stand together are one TOKEN; more of them than a NUMBER has at most are none. */
         private void readFigures() {
-            token = NUMBER;
-            value = tape[place] - '0';
-            if (isFigure(next)) {
+            value = 0;
+            for (next = place; next < length && isFigure(next); next++) {
                 value = value * 10 + tape[next] - '0';
-                next++;
             }
+            token = next - place <= FIGURES ? NUMBER : OTHER;
         }
 
         private boolean isFigure(int at) {

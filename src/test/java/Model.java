@@ -374,7 +374,8 @@ final class Model {
         Text(String tape) {
             for (int i = 0; i < tape.length(); ) {
                 String rest = tape.substring(i);
-                String token = rest.matches("(?s)[0-9][0-9].*") ? rest.substring(0, 2) : rest.substring(0, 1);
+                String behind = rest.replaceFirst("(?s)^([0-9]+|.)", "");
+                String token = rest.substring(0, rest.length() - behind.length());
                 tokens.add(token);
                 places.add(i);
                 i += token.length();
@@ -395,7 +396,7 @@ final class Model {
         }
 
         int number(int least, int most, boolean room) throws Fault {
-            if (!now().matches("[0-9]+")) {
+            if (!now().matches("[0-9]{1,2}")) {
                 throw fault(1);
             }
             int v = Integer.parseInt(now());

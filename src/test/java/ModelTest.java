@@ -96,11 +96,12 @@ public final class ModelTest {
         int at = chance.nextInt(t.length());
         String others = "0123456789,;,;lckpwnmx A*";
         char other = others.charAt(chance.nextInt(others.length()));
-        switch (chance.nextInt(5)) {
+        switch (chance.nextInt(6)) {
             case 0: t.setCharAt(at, other); break;
             case 1: t.insert(at, other); break;
             case 2: t.deleteCharAt(at); break;
             case 3: t.setLength(at); break;
+            case 4: t.insert(at, within(0, 999)); break;
             default: t.append("k1,1;p1,1;w1,1;n1,1;m1,1;k1,1;"); break;
         }
     }

@@ -7,6 +7,7 @@ public final class TextsTest {
         newObjectsHaveNoLoom();
         tapesAreFed();
         faultsOfTheLaw();
+        faultsOfManyFigures();
         faultsOfColours();
         faultsOfSuitors();
         loomsStand();
@@ -77,9 +78,39 @@ public final class TextsTest {
         dueFault("l4,9,9,9,9,10,", 2, 11);
         dueFault("l4,9,9,9,9,9,", 1, 12);
         dueFault("l4,9,9,9,9;", 1, 10);
-        dueFault("l123,", 1, 3);
-        dueFault("l4,100,", 1, 5);
-        dueFault("l999,", 2, 1);
+    }
+
+    /** Three figures or more that stand together are one TOKEN that is none: FAULT 1 at the first of them. */
+    private static void faultsOfManyFigures() {
+        dueFault("l122", 1, 1);
+        dueFault("l123,", 1, 1);
+        dueFault("l999,", 1, 1);
+        dueFault("l004,", 1, 1);
+        dueFault("l4,100,", 1, 3);
+        dueFault("l4,000,", 1, 3);
+        dueFault("l4,99,009,", 1, 6);
+        dueFault("l4,9,9,9,9,000;", 1, 11);
+        dueFault("123", 1, 0);
+        dueFault("l4,9123", 1, 3);
+        dueFault("l" + "1".repeat(119), 1, 1);
+        dueFault("l" + "0".repeat(118) + "4", 1, 1);
+        dueFault("0".repeat(120), 1, 0);
+        dueFault(START + "123", 1, 13);
+        dueFault(START + "c000;", 1, 14);
+        dueFault(START + "c0,001", 1, 16);
+        dueFault(START + "c0,0,0,0,0,0,0,0,000", 1, 30);
+        dueFault(START + "c0,0,0,0,0,0,0,0,99", 2, 30);
+        int at = PLAIN.length();
+        dueFault(PLAIN + "123", 1, at);
+        dueFault(PLAIN + "k001,1;", 1, at + 1);
+        dueFault(PLAIN + "k1,001;", 1, at + 3);
+        dueFault(PLAIN + "k1,01;k1,100;", 1, at + 9);
+        dueFault("l4,9 123", 1, 4);
+        dueFault("l4,9x123", 1, 4);
+        NightLoom x = Check.loomOf(Check.FIVE);
+        dueFault(x, "l004,0,0,0,0,0;c0;", 1, 1);
+        Check.due("all stays", x.count(3), 5);
+        Check.due("read behind it", Check.read(x, "l04,00,00,00,00,00;c00;"), 0);
     }
 
     private static void faultsOfColours() {
