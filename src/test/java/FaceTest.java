@@ -5,7 +5,11 @@ import java.lang.reflect.Method;
 import java.lang.reflect.Modifier;
 import java.nio.file.Files;
 import java.nio.file.Path;
+import java.util.ArrayList;
+import java.util.HashMap;
 import java.util.HashSet;
+import java.util.List;
+import java.util.Map;
 import java.util.Set;
 import java.util.TreeSet;
 import java.util.regex.Matcher;
@@ -23,7 +27,10 @@ public final class FaceTest {
         noPrivateMethodBearsAPublicName();
         String code = codeWithoutTexts(Files.readString(Path.of("src/main/java/NightLoom.java")));
         nothingRuledOutIsWritten(code);
+        theLibraryIsThatOfTheRules(code);
+        fieldsAndParametersAreFew();
         methodsStayShort(code);
+        callsAreAtMostEightDeep(code);
         Check.end();
     }
 
@@ -90,6 +97,31 @@ public final class FaceTest {
         }
     }
 
+    private static void theLibraryIsThatOfTheRules(String code) {
+        Set<String> due = Set.of("Math.min", "Math.max", "System.arraycopy");
+        Matcher m = Pattern.compile("\\b(?:Math|System|Integer|Long|Arrays|String|List)\\.\\w+").matcher(code);
+        while (m.find()) {
+            Check.isTrue("library: " + m.group(), due.contains(m.group()));
+        }
+    }
+
+    private static void fieldsAndParametersAreFew() {
+        List<Class<?>> all = new ArrayList<>(List.of(NightLoom.class.getDeclaredClasses()));
+        all.add(NightLoom.class);
+        for (Class<?> c : all) {
+            int fields = 0;
+            for (Field f : c.getDeclaredFields()) {
+                fields += Modifier.isStatic(f.getModifiers()) ? 0 : 1;
+                Check.isTrue(c.getSimpleName() + "." + f.getName() + " is of the object, or final",
+                    !Modifier.isStatic(f.getModifiers()) || Modifier.isFinal(f.getModifiers()));
+            }
+            Check.isTrue(c.getSimpleName() + " has " + fields + " fields", fields <= 20);
+            for (Method m : c.getDeclaredMethods()) {
+                Check.isTrue(m.getName() + " takes at most seven", m.getParameterCount() <= 7);
+            }
+        }
+    }
+
     private static void methodsStayShort(String code) {
         String[] lines = code.split("\n");
         int classes = 0;
@@ -105,5 +137,41 @@ public final class FaceTest {
             }
         }
         Check.isTrue(classes + " classes", classes <= 12);
+    }
+
+    /** By names alone: methods of one name count as one, which can only make it deeper. */
+    private static void callsAreAtMostEightDeep(String code) {
+        Map<String, Set<String>> calls = new HashMap<>();
+        String[] lines = code.split("\n");
+        for (int i = 0; i < lines.length; i++) {
+            Matcher head = Pattern.compile("^( +)(?:(?:public|private|static) )*(?:\\w+ )?(\\w+)\\([^;]*\\) \\{$").matcher(lines[i]);
+            if (head.find() && !head.group(2).matches("if|for|while|switch")) {
+                Set<String> called = calls.computeIfAbsent(head.group(2), name -> new HashSet<>());
+                for (int at = i + 1; at < lines.length && !lines[at].equals(head.group(1) + "}"); at++) {
+                    Matcher call = Pattern.compile("\\b(\\w+)\\(").matcher(lines[at]);
+                    while (call.find()) {
+                        called.add(call.group(1));
+                    }
+                }
+            }
+        }
+        for (Set<String> names : calls.values()) {
+            names.removeAll(Set.of("if", "for", "while", "switch", "return"));
+        }
+        for (String call : FACE.split(" ")) {
+            String name = call.substring(0, call.indexOf('/'));
+            int depth = depthOf(name, calls, 0);
+            Check.isTrue(name + " goes " + depth + " deep", calls.containsKey(name) && depth <= 8);
+        }
+    }
+
+    private static int depthOf(String name, Map<String, Set<String>> calls, int above) {
+        int deepest = 0;
+        if (above < 20 && calls.containsKey(name)) {
+            for (String called : calls.get(name)) {
+                deepest = Math.max(deepest, depthOf(called, calls, above + 1));
+            }
+        }
+        return deepest + 1;
     }
 }
