@@ -223,6 +223,11 @@ public final class EdgesOfTextsTest {
             "count 5 = 0", "count 6 = 0", "undo = STATE", "cloth 0 = 0", "cloth 1 = 0", "cloth 2 = 0", "cloth 3 = 9",
             "cloth 4 = 0", "cloth 5 = 0", "cloth 6 = 0", "colour 0 = 3", "colour 3 = 3", "colour 4 = BAD", "kind 0 = 4",
             "kind 1 = 1", "kind 2 = BAD", "suitor 0 2 = 0", "suitor 1 2 = 0", "suitor 0 4 = NONE", "suitor 1 4 = NONE");
+        Edge.run("nothing is left of one before, however many were read", "text " + FIVE + " = 5", "text " + FIVE + " = 5",
+            "text " + ONE_COLOUR + " = 0", "count 3 = 0", "kind 0 = BAD", "text " + LAW + "c0,1,2,3;k1,1; = 1", "count 2 = 4",
+            "count 3 = 1", "kind 1 = BAD", "text " + ONE_COLOUR + " = 0", "count 2 = 1", "count 3 = 0");
+        Edge.run("nor of a text that had a FAULT", "text " + FIVE + "x = FAULT 1 at 41", "text " + ONE_COLOUR + " = 0",
+            "count 3 = 0", "kind 0 = BAD", "text " + FIVE + "x = FAULT 1 at 41", "text " + ONE_COLOUR + " = 0", "count 3 = 0");
         Edge.on(x, "0 hung ahead of the first FEAST, and nobody has looked", "act 1", "cloth 4 = 0", "suitor 1 2 = 0",
             "suitor 1 4 = 1");
         Edge.on(x, "7: a FAULT, all stays", "text l3 = FAULT 2 at 1", "count 1 = 4", "count 6 = 1", "cloth 0 = 1",
